@@ -20,7 +20,7 @@ public final class InnPurposes {
     /** More than the LETTERS, so that some bits of a step are always a place among them. */
     private static final int FACTS = 8;
     private static final int NOT = -1, AND = -2, OR = -3, SWAY = 1 << 20, LEAST_SWAY = SWAY - 99;
-    /** A TEST as a step: its letter's place above these bits, and in 7 bits each the first fact that holds and the end. */
+    /** A TEST as a step: its letter's place above a span, which is the first fact that holds and the end, 7 bits each. */
     private static final int SPAN_BITS = 14, HALF_BITS = 7, HALF = 127;
 
     private static final int LAST_NIGHT = 9999, NIGHTS = 60, DECOY_NIGHTS = 6, SEEN_NIGHTS = 12;
@@ -433,12 +433,11 @@ public final class InnPurposes {
     }
 
     public int act(int guest, int act, int x) {
-        stage.ran = 0;
         if (!isGuest(guest) || !isBelow(act, ACTS)) {
+            stage.ran = 0;
             return 0;
         }
-        Guest one = now.guests[guest];
-        return stage.runs(one, one.kind, act, x, 0);
+        return stage.plays(now.guests[guest], act, x);
     }
 
     public int trace(int i) {
@@ -617,13 +616,13 @@ public final class InnPurposes {
     private int nightsToEmpty(Guest one) {
         Lure lure = lureOf(one);
         int means = one.means;
-        for (int n = 0; n < NIGHTS && means != 0; n++) {
-            means = without(means, lure.prey(means, now.night + n));
+        for (int n = 0; n <= NIGHTS; n++) {
             if (means == 0) {
-                return n + 1;
+                return n;
             }
+            means = without(means, lure.prey(means, now.night + n));
         }
-        return means == 0 ? 0 : NOT_SO;
+        return NOT_SO;
     }
 
     private int backTo(Guest one) {
@@ -1185,23 +1184,31 @@ public final class InnPurposes {
         final int[] bodies = new int[TRACE];
         int ran;
 
-        /** An ACT of a GUEST, by the first body that a KIND, or one above it, has. */
-        int runs(Guest guest, int kind, int act, int x, int depth) {
+        int plays(Guest guest, int act, int x) {
+            ran = 0;
+            return own(guest, act, x, 0);
+        }
+
+        private int own(Guest guest, int act, int x, int depth) {
+            return runs(guest, guest.kind, act, x, depth);
+        }
+
+        /** The first body from a KIND on upward; what it calls of super goes on from above the KIND that has it. */
+        private int runs(Guest guest, int kind, int act, int x, int depth) {
             int body = bodyFrom(kind, act);
             if (body == 0 || depth > MOST_OPEN) {
                 return 0;
             }
             note(body);
-            int own = guest.kind;
             int above = ABOVE[body / 10 - 1];
             int next = depth + 1;
             switch (body) {
                 case 10: return x + guest.number;
-                case 11: return runs(guest, own, SLEEPS, x, next) - guest.v;
-                case 12: return runs(guest, own, WAKES, x, next) * 2;
+                case 11: return own(guest, SLEEPS, x, next) - guest.v;
+                case 12: return own(guest, WAKES, x, next) * 2;
                 case 20: return runs(guest, above, WAKES, x, next) ^ 6;
                 case 30: return runs(guest, above, SLEEPS, x * 3, next);
-                case 40: return runs(guest, above, TELLS, x, next) + runs(guest, own, WAKES, 1, next);
+                case 40: return runs(guest, above, TELLS, x, next) + own(guest, WAKES, 1, next);
                 case 50: return -runs(guest, above, SLEEPS, x, next);
                 case 51: return runs(guest, above, WAKES, x + 1, next);
                 case 60: return runs(guest, above, TELLS, x - guest.number, next);

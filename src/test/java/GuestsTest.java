@@ -166,6 +166,12 @@ public final class GuestsTest {
         x.set(0, 0, 4);
         x.set(0, 1, 4);
         Due.is("3: not from itself", x.of(0, 7), 0);
+        InnPurposes y = Inns.withOne(0, 0, 1 << 4);
+        y.guest(0, 0, 1 << 9);
+        y.set(1, 1, ALL);
+        Due.is("3: nothing lies there, one gives", y.of(1, 7), 1 << 4);
+        y.pass(1);
+        Due.is("3: only what lies there", y.of(1, 7), 1 << 4 | 1 << 9);
     }
 
     private static void promise3Wrong() {
@@ -410,6 +416,10 @@ public final class GuestsTest {
         tempts("fancy 50 (x=1|x=2)&x=3", 0, 1, 7);
         tempts("fancy 50 !(x=1|x=2)&n=7", 0, 1, 7);
         tempts("fancy 50 !x=1|x=2&n=7", 0, 2, 59);
+        tempts("fancy 50 n=7&(x=1)", 0, 2, 9);
+        tempts("fancy 50 n=7&(x=2)", 0, 2, 59);
+        tempts("fancy 50 n=7&!(x=1&(x=2|x=1)|x=4)", 0, 1, 7);
+        tempts("fancy 50 n=7&!(x=1&(x=2|x=1)|x=4)", 0, 2, 59);
         tempts("fancy 50 !x=1&!x=2", 0, 2, 9);
         tempts("fancy 50 x=5|x=4|x=3|x=2|x=1|x=0", 0, 0, 55);
         tempts("fancy 50 n=7;leave 9 x=0;fancy 1 x=0;keep 1;leave 30 x=1", 0, 0, 47);
@@ -432,6 +442,19 @@ public final class GuestsTest {
         Inns.build(y, "fancy 9 x=0;keep");
         Due.is("10: a fault: none held, keep", y.told(1), 3);
         Due.is("10: a fault: none held, sum", y.of(0, 10), 5);
+    }
+
+    private static void promise10Anew() {
+        InnPurposes x = Inns.withOne(0, 0, 1);
+        Inns.build(x, "fancy 9 x=0;keep 8;fancy 9 x=0;?");
+        Inns.build(x, "leave 2 x=0");
+        Due.is("10: of a text with a fault nothing stays, keep", x.told(1), 3);
+        Due.is("10: of a text with a fault nothing stays, sum", x.of(0, 10), 3);
+        x.pass(14);
+        Inns.build(x, "fancy 9 n=4;fancy 20 n=3;keep 4");
+        Due.is("10: NIGHT modulo 10 by night 14", x.of(0, 10), 14);
+        x.pass(19);
+        Due.is("10: NIGHT modulo 10 by night 33", x.of(0, 10), 25);
     }
 
     private static void promise11() {
@@ -477,6 +500,13 @@ public final class GuestsTest {
         Due.is("11: in or not", x.told(3), 5);
         x.set(1, 0, x.of(1, 2) | 1 | 1 << 5);
         Due.is("11: what the other means it can't be given", x.told(3), 2);
+        InnPurposes z = Inns.ofSixKinds(0, 0, 0);
+        gives(z, 0, 1, 0);
+        gives(z, 0, 2, 1);
+        gives(z, 1, 2, 2);
+        gives(z, 2, 1, 3);
+        gives(z, 2, 0, 4);
+        Due.is("11: a ring one way round alone", z.told(3), 3);
         InnPurposes y = Inns.withOne(0, 0, 1);
         y.set(0, 1, 1);
         Due.is("11: no ring of one", y.told(3), 0);
@@ -506,6 +536,7 @@ public final class GuestsTest {
         promise10Full();
         promise10Sums();
         promise10Holds();
+        promise10Anew();
         promise11();
         promise11Ring();
         Due.finish();

@@ -60,9 +60,36 @@ public final class NightsTest {
         Due.is("12: night 1 takes", y.pass(1), 2);
         Due.is("12: means 2 no more", y.of(0, 2), 3);
         Due.is("12: by night 2 one less lies there", y.told(12), 0);
+        y.weight(0, 9);
+        Due.is("12: asked by how all is then", y.on(2, 30), 2);
         y.stay(0, false);
         y.pass(2);
         Due.is("12: who is not in loses nothing", y.of(0, 2), 3);
+    }
+
+    /** The same night modulo 10 again, with all else changed, and nothing asked between. */
+    private static void promise12Again() {
+        InnPurposes x = Inns.withOne(0, 0, 0);
+        x.pass(1);
+        x.set(0, 0, 7);
+        x.pass(10);
+        x.set(0, 0, 7);
+        x.weight(0, 9);
+        x.pass(10);
+        x.set(0, 0, 7);
+        x.weight(1, 9);
+        x.weight(0, 0);
+        x.pass(1);
+        Due.is("12: by the weights as they are", x.of(0, 2), 5);
+        x.stay(0, false);
+        x.pass(10);
+        x.stay(0, true);
+        x.weight(0, 9);
+        x.weight(1, 0);
+        Due.is("12: asked by the weights as they are", x.on(1, 30), 4);
+        x.pass(9);
+        Inns.build(x, "leave 99 x<9");
+        Due.is("12: and by the house as it is", x.on(10, 30), x.of(0, 2));
     }
 
     private static void promise12Cellar() {
@@ -130,6 +157,22 @@ public final class NightsTest {
         }
         Due.is("13: n -1", x.on(-1, 0), -2);
         Due.is("13: n 61", x.on(61, 31), -2);
+    }
+
+    private static void promise13Kinds() {
+        InnPurposes x = Inns.withOne(1, 9, 1 << 4 | 1 << 5);
+        x.guest(3, 5, 1 << 4 | 1 << 6);
+        x.guest(6, 9, 1 << 2 | 1 << 9);
+        x.row(2, 2, 5);
+        x.row(2, 1, 4);
+        Due.is("13: a lover behind 1", x.on(1, 30), 1 << 5);
+        Due.is("13: a thief behind 2", x.on(2, 31), 1 << 4);
+        Due.is("13: a told one behind 1", x.on(1, 32), 1 << 2);
+        Due.is("13: a told one behind 2", x.on(2, 32), 0);
+        x.plan(0, 0);
+        x.plan(0, 0);
+        Due.is("22: all three at the end", x.ends(0), 1);
+        Due.is("20: all three behind 2", x.mean(2, 1), 3);
     }
 
     private static void promise14() {
@@ -204,9 +247,11 @@ public final class NightsTest {
         promise12();
         promise12Late();
         promise12ByHowAllIs();
+        promise12Again();
         promise12Cellar();
         promise12Keep();
         promise13();
+        promise13Kinds();
         promise14();
         promise15();
         promise15Maid();

@@ -76,6 +76,9 @@ public final class PlansTest {
         Due.is("22: nothing has changed", y.of(0, 3), 6);
         y.plan(3, 0);
         Due.is("22: a second time nothing is lost", y.ends(0), 3);
+        y.set(0, 0, 0);
+        y.set(0, 1, 1 << 11);
+        Due.is("22: what it lost alone", y.ends(0), 1);
     }
 
     private static void promise23() {

@@ -64,6 +64,14 @@ public final class SeenTest {
         Due.is("17: a maid's 9 goes first", x.meant(0, 0), 0);
         x.set(0, 1, 512);
         Due.is("17: but if she lost it, 5 to 8 are ahead, and 4 as much", x.meant(0, 0), 2048 - 64);
+        x.see(-1, 0, 0, true);
+        x.see(0, 3, 0, true);
+        x.see(0, 3, 2, true);
+        x.see(0, 3, 1, false);
+        x.see(0, 3, 3, false);
+        x.stay(0, false);
+        Due.is("17: four of one night", x.meant(0, 0), 256);
+        Due.is("17: the least by four of one night", x.meant(0, 1), 5);
         InnPurposes y = Inns.withHouse("leave 99 n<3");
         y.guest(0, 0, 0);
         y.see(0, 1, 0, true);

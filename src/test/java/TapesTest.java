@@ -344,6 +344,9 @@ public final class TapesTest {
         Due.is("35: to another", x.shift(0, 3, 1, 1, 2), 2);
         row(x, 1, 0, 4, 5);
         row(x, 0, 3, 4, 5, 4, 5);
+        x.tape(4, 2, 5);
+        Due.is("35: a whole row", x.shift(0, 0, 4, 0, 5), 5);
+        row(x, 4, 3, 4, 5, 4, 5);
         Due.is("35: none, at both ends", x.shift(0, 5, 1, 3, 0), 0);
         Due.is("35: beyond the other's end", x.shift(0, 0, 1, 2, 2), -13);
         Due.is("35: beyond its own end", x.shift(0, 4, 1, 0, 2), -13);
