@@ -20,7 +20,7 @@ public final class InnPurposes {
     /** More than the LETTERS, so that some bits of a step are always a place among them. */
     private static final int FACTS = 8;
     private static final int NOT = -1, AND = -2, OR = -3, SWAY = 1 << 20, LEAST_SWAY = SWAY - 99;
-    /** A TEST as a step: its letter's place above a span, which is the first fact that holds and the end, 7 bits each. */
+    /** A TEST as a step: its letter's place above a span: the first fact that holds and the end, 7 bits each. */
     private static final int SPAN_BITS = 14, HALF_BITS = 7, HALF = 127;
 
     private static final int LAST_NIGHT = 9999, NIGHTS = 60, DECOY_NIGHTS = 6, SEEN_NIGHTS = 12;

@@ -88,7 +88,8 @@ public final class FaceTest {
         String bare = source.replaceAll("(?s)/\\*.*?\\*/", "").replaceAll("//.*", "").replaceAll("\"[^\"]*\"", "\"\"");
         String[] none = {"throw", "throws", "try", "catch", "synchronized", "assert", "record", "double", "float",
             "package", "Exact", "equals", "hashCode", "toString", "System\\.(?!arraycopy)", "Math\\.(?!min|max)",
-            "Arrays\\.(?!fill)", "import java\\.(?!util\\.Arrays;)", "->", "::", "while\\s*\\(true", "new \\w+\\(\\)\\s*\\{"};
+            "Arrays\\.(?!fill)", "import java\\.(?!util\\.Arrays;)", "->", "::", "while\\s*\\(true",
+            "new \\w+\\(\\)\\s*\\{"};
         for (String word : none) {
             String around = Character.isLetter(word.charAt(0)) ? "\\b" + word : word;
             Due.so("not in the source: " + word, !Pattern.compile(around + "(?![A-Za-z])").matcher(bare).find()
@@ -102,7 +103,8 @@ public final class FaceTest {
         String indent = "";
         for (int i = 0; i < lines.size(); i++) {
             String line = lines.get(i);
-            boolean begins = line.matches(" {4}( {4})?\\w[^=;]*\\(.*\\) \\{") && !line.matches(" *(if|for|while|switch|return).*");
+            boolean begins = line.matches(" {4}( {4})?\\w[^=;]*\\(.*\\) \\{")
+                && !line.matches(" *(if|for|while|switch|return).*");
             if (begins) {
                 from = i;
                 indent = line.substring(0, line.indexOf(line.trim()));

@@ -21,7 +21,8 @@ public final class FrugalTest {
             int g = i % 7;
             sum += x.guest(i % 8, i % 10, i & 4095) + x.set(g, i % 2, i * 77 & 4095) + x.of(g, i % 22) + x.told(i % 42);
             sum += x.pass(i % 3) + x.on(60, i % 36) + x.lasts(g, i % 12) + x.decoys(g, i % 12, 6) + x.redeem(g, i % 12);
-            sum += x.see(g, i % 13, i % 12, i % 2 == 0) + x.meant(g, i % 2) + x.can(g, i % 2) + x.odds(g, 0) + x.mean(60, 0);
+            sum += x.see(g, i % 13, i % 12, i % 2 == 0) + x.meant(g, i % 2) + x.can(g, i % 2);
+            sum += x.odds(g, 0) + x.mean(60, 0);
             sum += x.plan(i % 4, g) + x.ends(0) + x.book(i % 12, i % 3) + x.looked() + x.weight(i % 12, i % 10);
             sum += x.tape(g, i % 5, 60) + x.item(g, i % 60, i) + x.read(g, 0) + x.shift(g, 0, g, 9, 50) + x.judge(g, 3);
             sum += x.image() + x.undo() + x.act(g, i % 3, i) + x.trace(i % 20) + x.taken(g, i % 7) + x.count(i % 7);

@@ -172,6 +172,17 @@ public final class GuestsTest {
         Due.is("3: nothing lies there, one gives", y.of(1, 7), 1 << 4);
         y.pass(1);
         Due.is("3: only what lies there", y.of(1, 7), 1 << 4 | 1 << 9);
+        InnPurposes z = Inns.withOne(0, 0, 0);
+        z.set(0, 1, ALL);
+        z.image();
+        z.guest(0, 0, 6);
+        Due.is("3: a second one gives", z.of(0, 7), 6);
+        z.undo();
+        Due.is("3: nobody is there to give", z.of(0, 7), 0);
+        for (int g = 1; g < 6; g++) {
+            z.guest(0, 0, 1 << g);
+        }
+        Due.is("3: five give", z.of(0, 7), 62);
     }
 
     private static void promise3Wrong() {
@@ -306,8 +317,8 @@ public final class GuestsTest {
     }
 
     private static void promise10Faults() {
-        String[] early = {"", "k", "keep", "keep ", "keep 1;", "fancy 1", "fancy 12", "fancy 12 ", "leave 1 p", "leave 1 p<",
-            "fancy 1 (p<1", "fancy 1 !", "fancy 1 p<1&", "fancy 1 p<1|", "keep 1;leave 1 (p=1)|"};
+        String[] early = {"", "k", "keep", "keep ", "keep 1;", "fancy 1", "fancy 12", "fancy 12 ", "leave 1 p",
+            "leave 1 p<", "fancy 1 (p<1", "fancy 1 !", "fancy 1 p<1&", "fancy 1 p<1|", "keep 1;leave 1 (p=1)|"};
         for (String text : early) {
             fault(text, text.length());
         }

@@ -90,6 +90,13 @@ public final class NightsTest {
         x.pass(9);
         Inns.build(x, "leave 99 x<9");
         Due.is("12: and by the house as it is", x.on(10, 30), x.of(0, 2));
+        InnPurposes y = Inns.withOne(0, 0, ALL);
+        y.pass(10);
+        y.weight(0, 9);
+        y.set(0, 0, ALL);
+        Due.is("13: ten nights on, by the weights as they are", y.on(1, 30), ALL - 1);
+        y.stay(0, false);
+        Due.is("13: not in", y.on(1, 30), ALL);
     }
 
     private static void promise12Cellar() {

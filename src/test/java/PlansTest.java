@@ -110,6 +110,12 @@ public final class PlansTest {
         Due.is("24: the first of two", x.looked(), 2);
         x.redeem(0, 5);
         Due.is("24: as it lies there now", x.looked(), 0);
+        x.book(-1, 0);
+        Due.is("24: none of the old book", x.looked(), -5);
+        for (int i = 0; i < 8; i++) {
+            x.book(i, 0);
+        }
+        Due.is("24: eight rows that are so", x.looked(), -5);
     }
 
     public static void main(String[] args) {

@@ -267,6 +267,7 @@ public final class TapesTest {
         Due.is("32: no first", x.item(1, 0, 1), -13);
         Due.is("32: nothing, n below 0", x.tape(1, -1, -5), 1);
         Due.is("32: nothing is there", x.item(1, 0, 1), -11);
+        Due.is("34: nothing is there to read", x.read(1, 0), InnPurposes.NO);
         Due.is("32: nothing, n above 60", x.tape(1, -1, 61), 1);
         Due.is("32: tape 6", x.tape(6, 9, 99), -1);
         Due.is("32: tape -1", x.tape(-1, 0, 1), -1);
