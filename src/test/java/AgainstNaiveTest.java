@@ -171,11 +171,16 @@ public final class AgainstNaiveTest {
         seed = 11;
         InnPurposes x = new InnPurposes();
         int houses = 0;
+        int calls = 0;
         for (int i = 0; i < many; i++) {
             String text = text();
             String read = text.substring(0, Math.min(100, text.length()));
-            x = houses < 6 ? x : new InnPurposes();
-            houses = houses < 6 ? houses : 0;
+            calls += read.length() + 1;
+            if (houses == 6 || calls > CALLS) {
+                x = new InnPurposes();
+                houses = 0;
+                calls = read.length() + 1;
+            }
             for (char sign : read.toCharArray()) {
                 x.feed(sign);
             }

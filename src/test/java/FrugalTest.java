@@ -6,6 +6,10 @@ public final class FrugalTest {
         "fancy 1 x=1|x=2|x=3|x=4|x=5|x=6|x=7|x=8|x=9|x=10;leave 99 n<9&!(k=9);keep 9;leave 1 !!!!(((x=0", "keep 1",
         "fancy 9 !(x>5&(n<5|!(w=3)))|v>4&k<6;leave 7 p=2&x<4;keep 2"};
 
+    /** Rounds of calls on one inn, so that it stays under 512 of them, and how many inns get them. */
+    private static final int ROUNDS = 3;
+    private static final int INNS = 170;
+
     private FrugalTest() {
     }
 
@@ -15,9 +19,12 @@ public final class FrugalTest {
         return threads.getThreadAllocatedBytes(Thread.currentThread().getId());
     }
 
-    private static long calls(InnPurposes x, int many) {
+    private static long calls(InnPurposes x, int from) {
         long sum = 0;
-        for (int i = 0; i < many; i++) {
+        for (int kind = 1; kind < 7; kind++) {
+            sum += x.guest(kind, from % 10, from * 31 & 4095);
+        }
+        for (int i = from; i < from + ROUNDS; i++) {
             int g = i % 7;
             sum += x.guest(i % 8, i % 10, i & 4095) + x.set(g, i % 2, i * 77 & 4095) + x.of(g, i % 22) + x.told(i % 42);
             sum += x.pass(i % 3) + x.on(60, i % 36) + x.lasts(g, i % 12) + x.decoys(g, i % 12, 6) + x.redeem(g, i % 12);
@@ -36,17 +43,32 @@ public final class FrugalTest {
         return sum;
     }
 
+    private static InnPurposes[] inns(int many) {
+        InnPurposes[] inns = new InnPurposes[many];
+        for (int i = 0; i < many; i++) {
+            inns[i] = new InnPurposes();
+        }
+        return inns;
+    }
+
+    private static long calls(InnPurposes[] inns) {
+        long sum = 0;
+        for (int i = 0; i < inns.length; i++) {
+            sum += calls(inns[i], i * ROUNDS);
+        }
+        return sum;
+    }
+
     public static void main(String[] args) {
-        InnPurposes first = new InnPurposes();
-        calls(first, 60);
+        calls(inns(INNS));
         long before = made();
-        InnPurposes x = new InnPurposes();
-        long built = made() - before;
+        InnPurposes[] inns = inns(INNS);
+        long built = (made() - before) / INNS;
         before = made();
-        calls(x, 512);
+        calls(inns);
         long called = made() - before;
-        System.out.println("made by the constructor: " + built + " bytes, by the calls: " + called);
-        Due.so("the constructor stays under 60,000 bytes", built < 60_000);
+        System.out.println("made by a constructor: " + built + " bytes, by the calls of " + INNS + ": " + called);
+        Due.so("a constructor stays under 60,000 bytes", built < 60_000);
         Due.so("the calls make nothing of note", called < 20_000);
         Due.finish();
     }

@@ -34,4 +34,24 @@ final class Inns {
         build(x, text);
         return x;
     }
+
+    /** By NIGHT 1, in a house where but one night in ten takes something: the tenth from now is the first. */
+    static InnPurposes oneNightInTen(int means) {
+        InnPurposes x = withHouse("leave 99 n>0");
+        x.guest(0, 0, means);
+        x.stay(0, false);
+        x.pass(1);
+        x.stay(0, true);
+        return x;
+    }
+
+    /** By a NIGHT up to 9999, with nobody there; 168 calls at most. */
+    static InnPurposes late(int night) {
+        InnPurposes x = new InnPurposes();
+        for (int i = 0; i < night / 60; i++) {
+            x.pass(60);
+        }
+        x.pass(night % 60);
+        return x;
+    }
 }
