@@ -3,16 +3,15 @@ import java.util.List;
 import java.util.regex.Matcher;
 import java.util.regex.Pattern;
 
-/** The words of the document, in parts (0 the Terms, the others the promises), and which of them a test quotes. */
+/** The words of the document, in parts (0 how often an object is used, and the Terms; the others the promises), and which of them a test quotes. */
 final class Words {
     static final int PROMISES = 35;
     private final String[] parts = new String[PROMISES + 1];
     private final boolean[][] quoted = new boolean[PROMISES + 1][];
 
     Words(String document) {
-        int from = document.indexOf("## Terms") + "## Terms".length();
-        parts[0] = document.substring(from, document.indexOf("Ahead of the calls `guest`"))
-            .replaceAll("```(text)?|==== \\d", "");
+        parts[0] = between(document, "\nAn object is used", "## The public face")
+            + between(document, "## Terms", "Ahead of the calls `guest`").replaceAll("## Terms|```(text)?|==== \\d", "");
         Matcher promise = Pattern.compile("## Promise (\\d+): .*\\s+`.*?`: (.*)").matcher(document);
         while (promise.find()) {
             parts[Integer.parseInt(promise.group(1))] = promise.group(2);
@@ -21,6 +20,10 @@ final class Words {
             parts[i] = parts[i].replaceAll("\\s+", " ").trim();
             quoted[i] = new boolean[parts[i].length()];
         }
+    }
+
+    private static String between(String document, String first, String end) {
+        return document.substring(document.indexOf(first), document.indexOf(end));
     }
 
     /** Whether these words stand just once in what is said of the promise, or, if not there, in the Terms. */

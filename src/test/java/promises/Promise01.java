@@ -58,6 +58,33 @@ final class Promise01 {
         Due.is("NO", InnPurposes.NO, Long.MIN_VALUE);
     }
 
+    @Says("An object is used for at most 512 calls after it has been made; what later calls answer is free.")
+    static void the512thCallIsAnsweredAsTheFirst() {
+        InnPurposes acts = Inns.withOne(6, 0, 0);
+        InnPurposes images = Inns.withOne(6, 0, 0);
+        InnPurposes faults = new InnPurposes();
+        InnPurposes decoys = Inns.withOne(0, 0, 1);
+        InnPurposes rows = Inns.withOne(0, 0, 1);
+        for (int i = 0; i < 255; i++) {
+            acts.act(0, 2, i);
+            acts.trace(11);
+            images.image();
+            images.undo();
+            faults.feed('k');
+            faults.house();
+            decoys.decoys(0, 0, 6);
+            decoys.meant(0, 0);
+            rows.see(0, 0, 0, true);
+            rows.see(-1, 0, 0, true);
+        }
+        Due.is("the 512th of acts", acts.count(6), 12);
+        Due.is("the 512th of images", images.undo(), 1);
+        Due.is("the 511th of faults", faults.feed('k'), 1);
+        Due.is("the 512th of faults", faults.house(), -11);
+        Due.is("the 512th of decoys", decoys.decoys(0, 0, 6), 126);
+        Due.is("the 512th of rows", rows.see(0, 0, 0, true), 1);
+    }
+
     @Says("No GUESTS, no HOUSE")
     static void aNewObjectHasNothingOfAnOlderOne() {
         InnPurposes older = Everything.inn();
