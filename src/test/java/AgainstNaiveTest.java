@@ -9,6 +9,8 @@ import java.util.Map;
 public final class AgainstNaiveTest {
     private static final int RUNS = 300;
     private static final int CALLS = 512;
+    /** So many times 60 nights, and it is night 9960; each tenth run begins about then. */
+    private static final int LATE = 166;
 
     /**
      * How often a call comes, its name, its arguments: a number n stands for mostly one below n; P a set of
@@ -141,8 +143,12 @@ public final class AgainstNaiveTest {
         seed = number * 7919L;
         InnPurposes x = new InnPurposes();
         NaiveInn y = new NaiveInn();
-        int first = pick(7);
-        for (int i = 0; i < first; i++) {
+        int late = number % 10 == 0 ? LATE - pick(2) : 0;
+        for (int i = 0; i < late; i++) {
+            ask(x, y, "run " + number + ", late: ", "pass", 60);
+        }
+        int first = late + pick(7);
+        for (int i = late; i < first; i++) {
             ask(x, y, "run " + number + ", first: ", "guest", pick(7), pick(10), pick(4096));
         }
         for (int call = first; call < CALLS;) {
